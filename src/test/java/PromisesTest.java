@@ -325,6 +325,7 @@ public final class PromisesTest {
         due("commit(0) with 60 lines", y.commit(0), 1);
         dueFile(y, 0, 4);
         dueSources(y, 0, 3);
+        due("pull(0, 1, 1) beside the sixtieth line", y.pull(0, 1, 1), -6);
         y.delete(0, 0);
         due("commit(0) that puts nothing", y.commit(0), 1);
         due("lines(0)", y.lines(0), 0);
@@ -371,12 +372,15 @@ public final class PromisesTest {
         due("uncommit(0, 1) again", x.uncommit(0, 1), -3);
         due("changes()", x.changes(), 2);
         due("weight(1)", x.weight(1), 3);
-        due("uncommit(0, 0)", x.uncommit(0, 0), 0);
+        due("canPull(2, 1, 0)", x.canPull(2, 1, 0), 1);
+        type(x, 2, 0, 8, 9);
+        due("commit(2)", x.commit(2), 1);
+        due("uncommit(0, 0) after work in other rooms", x.uncommit(0, 0), 0);
         dueFile(x, 0);
         dueFile(x, 1, 1, 2, 3);
         dueCopy(x, 0, 1, 5, 6, 3);
         due("commit(0)", x.commit(0), 1);
-        dueSources(x, 0, 2, 2, 2, 2);
+        dueSources(x, 0, 3, 3, 3, 3);
     }
 
     private static void uncommitWhatDoesNotStand() {
@@ -477,9 +481,14 @@ public final class PromisesTest {
         x.delete(1, 0);
         x.delete(1, 4);
         x.insert(1, 4, 8);
-        due("pull(1, 0, 3) with another copy of the same length", x.pull(1, 0, 3), -5);
+        due("pull(1, 0, 3) with another last text", x.pull(1, 0, 3), -5);
         x.delete(1, 4);
         x.insert(1, 4, 3);
+        x.delete(1, 0);
+        x.insert(1, 0, 8);
+        due("pull(1, 0, 3) with another first text", x.pull(1, 0, 3), -5);
+        x.delete(1, 0);
+        x.insert(1, 0, 1);
         due("pull(1, 0, 3)", x.pull(1, 0, 3), 1);
         due("compare(0, 1)", x.compare(0, 1), 1);
         due("pull(2, 1, 3) with 0 alone", x.pull(2, 1, 3), 2);
@@ -506,6 +515,21 @@ public final class PromisesTest {
         due("has(1, 1)", x.has(1, 1), 0);
         due("pull(1, 0, 2) at the end of the file", x.pull(1, 0, 2), 1);
         dueFile(x, 1, 1, 3, 5);
+        // The ends of an emptied file are not the line that was there.
+        ChangeRooms w = twoRooms(1);
+        w.pull(2, 0, 0);
+        w.delete(0, 0);
+        due("commit(0)", w.commit(0), 1);
+        w.insert(1, 0, 5);
+        due("commit(1)", w.commit(1), 1);
+        w.insert(2, 1, 6);
+        due("commit(2)", w.commit(2), 1);
+        due("pull(0, 1, 2) before a line that is out", w.pull(0, 1, 2), -6);
+        due("pull(0, 2, 3) behind a line that is out", w.pull(0, 2, 3), -6);
+        due("pull(1, 0, 1) of a line with another one before it", w.pull(1, 0, 1), -6);
+        due("pull(2, 0, 1) of a line with another one behind it", w.pull(2, 0, 1), -6);
+        due("pull(1, 2, 3)", w.pull(1, 2, 3), 1);
+        dueFile(w, 1, 5, 1, 6);
         // Another line with the same text is another line.
         ChangeRooms y = new ChangeRooms();
         type(y, 0, 0, 1, 2);
@@ -731,6 +755,27 @@ public final class PromisesTest {
         }
     }
 
+    private static void needsBothNeighbours() {
+        promise = "promise 14, both neighbours";
+        ChangeRooms x = twoRooms(1, 2);
+        x.insert(0, 1, 5);
+        x.commit(0);
+        x.insert(1, 1, 6);
+        x.commit(1);
+        x.delete(1, 1);
+        x.commit(1);
+        due("pull(1, 0, 1)", x.pull(1, 0, 1), 1);
+        // 1 5 are neighbours after change 1 alone; after changes 2 and 3, 1 has other neighbours.
+        x.insert(1, 1, 7);
+        x.commit(1);
+        dueNeeds(x, 4, 0, 1);
+        // 5 2 likewise.
+        x.insert(1, 3, 8);
+        x.commit(1);
+        dueNeeds(x, 5, 0, 1);
+        dueFile(x, 1, 1, 7, 5, 8, 2);
+    }
+
     private static void needsOfOneCommit() {
         promise = "promise 14, changes of one commit";
         ChangeRooms x = new ChangeRooms();
@@ -855,6 +900,14 @@ public final class PromisesTest {
         z.commit(0);
         due("compare(0, 1)", z.compare(0, 1), 4);
         due("compare(1, 0)", z.compare(1, 0), 4);
+        // Files of one length that differ in one line.
+        for (int place = 0; place < 3; place++) {
+            ChangeRooms w = twoRooms(1, 2, 3);
+            w.delete(0, place);
+            w.insert(0, place, 4);
+            due("commit(0)", w.commit(0), 1);
+            due("compare(0, 1) with another line " + place, w.compare(0, 1), 4);
+        }
     }
 
     private static void unrecording() {
@@ -915,6 +968,7 @@ public final class PromisesTest {
         fileQuestions();
         having();
         needing();
+        needsBothNeighbours();
         needsOfOneCommit();
         weighing();
         canPulling();
