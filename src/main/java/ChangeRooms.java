@@ -390,6 +390,7 @@ public final class ChangeRooms {
 
     private void recordGaps(int room) {
         int had = roomChanges[room];
+        int recorded = changeCount;
         // All edges must be in place first: a gap's run reaches to the pair behind it.
         for (int pair = 0; pair <= pairCount + 1; pair++) {
             trial[pairText[pair]] = fileCells[room * ROW + pairLine[pair]];
@@ -397,13 +398,16 @@ public final class ChangeRooms {
         trialLength = textCount[room] + ENDS;
         for (int pair = 0; pair <= pairCount; pair++) {
             if (isGap(pair)) {
-                recordGap(room, pair, had);
+                recordGap(room, pair);
             }
+        }
+        for (int c = recorded; c < changeCount; c++) {
+            neededChanges[c] = findNeeded(c, had);
         }
         keepTrial(room);
     }
 
-    private void recordGap(int room, int pair, int had) {
+    private void recordGap(int room, int pair) {
         int change = changeCount;
         int before = runBefore(change);
         int after = runAfter(change);
@@ -419,7 +423,6 @@ public final class ChangeRooms {
         for (int j = pairText[pair]; j <= pairText[pair + 1]; j++) {
             addToRun(after, trial[j]);
         }
-        neededChanges[change] = findNeeded(before, had);
         roomChanges[room] |= 1 << change;
         changeCount++;
     }
@@ -429,7 +432,8 @@ public final class ChangeRooms {
         runLength[run]++;
     }
 
-    private int findNeeded(int run, int had) {
+    private int findNeeded(int change, int had) {
+        int run = runBefore(change);
         int needed = 0;
         for (int i = 0; i < runLength[run] - 1; i++) {
             int joiner = lastJoiner(runCells[run * ROW + i], runCells[run * ROW + i + 1], had);
