@@ -390,7 +390,7 @@ public final class ChangeRooms {
 
     private void recordGaps(int room) {
         int had = roomChanges[room];
-        int recorded = changeCount;
+        int firstNew = changeCount;
         // All edges must be in place first: a gap's run reaches to the pair behind it.
         for (int pair = 0; pair <= pairCount + 1; pair++) {
             trial[pairText[pair]] = fileCells[room * ROW + pairLine[pair]];
@@ -401,7 +401,7 @@ public final class ChangeRooms {
                 recordGap(room, pair);
             }
         }
-        for (int c = recorded; c < changeCount; c++) {
+        for (int c = firstNew; c < changeCount; c++) {
             neededChanges[c] = findNeeded(c, had);
         }
         keepTrial(room);
