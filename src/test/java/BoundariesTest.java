@@ -1,3 +1,4 @@
+import java.lang.reflect.Field;
 import java.util.ArrayList;
 import java.util.Arrays;
 import java.util.List;
@@ -1074,8 +1075,7 @@ public final class BoundariesTest {
         Run s = new Run(sentence).committed(0, 1, 2).committed(1, 1, 2).due("compare(0, 1)", 4);
         s.due("pull(2, 0, 0)", 1).committed(2, 1, 2, 3).due("compare(0, 2)", 4).due("compare(2, 0)", 4);
         s.committed(2, 2, 3).due("compare(0, 2)", 4).due("compare(2, 0)", 4);
-        // The same changes, made in another order. The answer 2 can't come up: which lines are neighbours
-        // in a file follows from the runs of its room's changes, whatever the order in which they were made.
+        // The same changes, made in another order.
         Run u = twoRooms(sentence, 1, 2).committed(0, 3, 1, 2).committed(1, 1, 2, 4).due("compare(0, 1)", 4);
         u.due("pull(0, 1, 2)", 1).due("compare(0, 1)", 4).due("pull(1, 0, 1)", 1).due("compare(0, 1)", 1);
         // Full files that differ in the first or in the last line alone.
@@ -1083,6 +1083,29 @@ public final class BoundariesTest {
             int[] full = {0, 1, 2, 3, 4, 5, 6, 7, 8, 9, 9, 8, 7, 6, 5, 4, 3, 2, 1, 0};
             Run t = twoRooms(sentence, full).due("compare(0, 1)", 1).due("delete(0, " + place + ")", 0);
             t.due("insert(0, " + place + ", 2)", 20).due("commit(0)", 1).due("compare(0, 1)", 4);
+        }
+    }
+
+    // No run of calls leads to the answer 2: a change swaps the neighbours in its run before it for those in
+    // its run after it, so which lines are neighbours in a file follows from its room's changes, whatever
+    // the order in which they came and went. The test therefore gives a room another one's changes itself.
+    private static void onlyTheChangesAreTheSame() {
+        Run r = twoRooms("2 if only the changes are the same", 1, 2).due("pull(2, 0, 0)", 1);
+        r.committed(0, 1, 3, 2).committed(1, 1, 2, 4).due("compare(0, 1)", 4).due("compare(0, 2)", 4);
+        int[] roomChanges = arrayIn(r.x, "roomChanges");
+        roomChanges[1] = roomChanges[0];
+        r.due("compare(0, 1)", 2).due("compare(1, 0)", 2).due("compare(0, 2)", 4).due("compare(1, 1)", 1);
+        roomChanges[2] = roomChanges[0];
+        r.due("compare(0, 2)", 2).due("compare(2, 0)", 2).due("compare(2, 1)", 2).due("compare(2, 2)", 1);
+    }
+
+    private static int[] arrayIn(ChangeRooms x, String name) {
+        try {
+            Field field = ChangeRooms.class.getDeclaredField(name);
+            field.setAccessible(true);
+            return (int[]) field.get(x);
+        } catch (ReflectiveOperationException e) {
+            throw new IllegalStateException("the class holds no " + name + " any more: " + e);
         }
     }
 
@@ -1167,6 +1190,7 @@ public final class BoundariesTest {
         weighing();
         canPulling();
         comparing();
+        onlyTheChangesAreTheSame();
         unrecording();
     }
 

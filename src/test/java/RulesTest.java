@@ -130,10 +130,58 @@ public final class RulesTest {
                 calls.push(call);
             } else if (tokens.get(i).equals(")")) {
                 calls.pop();
-            } else if (tokens.get(i).equals("new")) {
-                want(tokens.get(i - 1).equals("=") && tokens.get(i - 3).equals("]"), "arrays are made in fields");
             }
         }
+    }
+
+    private static void checkArrays(List<String> tokens) {
+        int depth = 0;
+        for (int i = 0; i < tokens.size(); i++) {
+            String token = tokens.get(i);
+            if (token.equals("{")) {
+                depth++;
+            } else if (token.equals("}")) {
+                depth--;
+            } else if (token.equals("new")) {
+                String length = tokens.get(i + 3);
+                boolean constant = length.matches("[1-9]\\d*|[A-Z][A-Z_]*");
+                want(depth == 1 && tokens.get(i - 1).equals("="), "arrays are made in fields' initialisers");
+                want(constant && tokens.get(i + 4).equals("]"), "an array's length is a constant: " + length);
+            }
+        }
+    }
+
+    /** Stricter than the rule: every loop is a for over a counter of its own that nothing else moves. */
+    private static void checkLoops(List<String> tokens) {
+        for (int i = 0; i < tokens.size(); i++) {
+            want(!tokens.get(i).equals("while") && !tokens.get(i).equals("do"), "loops have a counter in their head");
+            if (tokens.get(i).equals("for")) {
+                checkLoop(tokens, i);
+            }
+        }
+    }
+
+    private static void checkLoop(List<String> tokens, int start) {
+        String counter = tokens.get(start + 3);
+        int open = start;
+        while (!tokens.get(open).equals("{")) {
+            open++;
+        }
+        String head = String.join(" ", tokens.subList(start, open));
+        String form = "for \\( int C = [^;]*; [^;]*\\bC\\b[^;]* [<>] [^;]*; C (\\+ \\+|- -) \\)";
+        want(head.matches(form.replace("C", counter)), "a counter runs against a bound: " + head);
+        int depth = 1;
+        for (int i = open + 1; depth > 0; i++) {
+            depth += tokens.get(i).equals("{") ? 1 : tokens.get(i).equals("}") ? -1 : 0;
+            want(!tokens.get(i).equals(counter) || !isMoved(tokens, i), "nothing else moves the counter of: " + head);
+        }
+    }
+
+    private static boolean isMoved(List<String> tokens, int at) {
+        String near = String.join(" ", tokens.subList(at + 1, at + 4));
+        String before = tokens.get(at - 2) + tokens.get(at - 1);
+        return near.matches("= [^=].*|[-+*/%&|^] = .*|\\+ \\+.*|- -.*|(< <|> >|> > >) =.*")
+                || before.equals("++") || before.equals("--");
     }
 
     /** Own names are the class's, those of constants, and those that begin small and are no Java word. */
@@ -216,6 +264,8 @@ public final class RulesTest {
         List<String> tokens = tokens(source);
         checkFace();
         checkTokens(tokens);
+        checkArrays(tokens);
+        checkLoops(tokens);
         checkCalls(tokens);
         checkMethodLengths(source);
         System.out.println(wrong == 0 ? "all rules are kept" : wrong + " rules are broken");
